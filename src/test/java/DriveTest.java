@@ -206,6 +206,12 @@ public final class DriveTest {
             Desk.due("the block of s ahead", ride.ahead(n, 3), ride.ahead(n, 0) < 40 ? 0 : 1);
         }
         Desk.due("without a program", new PathRide().ahead(5, 3), -1);
+        ride = Desk.riding("to 20 0 0 10;by 0 20 0 10;");
+        Desk.due("at 10", ride.ahead(1, 3), 0);
+        Desk.due("at 20", ride.ahead(2, 0), 20);
+        Desk.due("at the end of a block the next one is the block of s", ride.ahead(2, 3), 1);
+        ride.ticks(2);
+        Desk.due("at 20", ride.count(7), 1);
     }
 
     private static void till() {

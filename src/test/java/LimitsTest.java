@@ -74,6 +74,8 @@ public final class LimitsTest {
         Desk.due("passes 2, back from 0", ride.block(2, 8), 44);
         ride = Desk.riding("to 10 0 0 100;to 20 0 0 100;to 30 0 0 100;to 40 0 0 100;");
         Desk.due("passes 2: 44 * 44 and 2000", ride.block(2, 8), 62);
+        ride = Desk.riding("to 100 0 0 100;to 110 0 0 100;");
+        Desk.due("passes 1, back from 0", ride.block(1, 8), 44);
         ride = Desk.riding("tolerance 0;to 1000 0 0 100;by 0 1000 0 100;");
         Desk.due("passes 1: the corner's limit", ride.block(1, 8), 10);
         // the feed does not bound it
@@ -165,6 +167,12 @@ public final class LimitsTest {
             Desk.due("where " + axis, ride.where(axis), ride.place(ride.count(4), axis));
         }
         Desk.due("it has turned", ride.where(1) > 0, true);
+        // where the cut begins it is at P already: (4, 2), not (4, 1)
+        ride = Desk.riding("tolerance 2000;to 7 3 0 500;to 7 -20 0 500;");
+        Desk.due("cut", ride.corner(0, 1), 3);
+        at(ride, 3, 3, 1, 0);
+        at(ride, 4, 4, 2, 0);
+        at(ride, 10, 7, 0, 0);
         // cuts that do not touch: between them it goes straight
         ride = Desk.riding("tolerance 10;to -100 0 0 500;to -100 -100 -50 500;");
         Desk.due("cut", ride.corner(0, 1), 28);

@@ -16,6 +16,7 @@ public final class ProgramTest {
         turns();
         whatAFaultLeaves();
         whatAProgramEnds();
+        settingsAnew();
         Desk.finish("ProgramTest");
     }
 
@@ -98,6 +99,7 @@ public final class ProgramTest {
         right("to 100000 -100000 -0 5000;", 1);
         right("mark a;", 0);
         right("mark marks;mark abcdefg;again marks 1;", 0);
+        right("mark zaz;mark az;mark za;again zaz 1;", 0);
         right("turn 0 5 -4 -100000 5000;", 4);
     }
 
@@ -107,6 +109,10 @@ public final class ProgramTest {
         fault("go 1 2 3 4;", 0, 1);
         fault("tO 1 2 3 4;", 0, 1);
         fault("to 1 2 O3 4;", 7, 1);
+        // the signs right beside letters, digits, blanks
+        for (char sign : new char[] {'`', '{', '/', ':', '!', 31, 9, 11, ',', '.', '<', 0, 255}) {
+            fault("to 1" + sign + "2 3 4;", 4, 1);
+        }
         fault("to 1 2 3;", 8, 1);
         fault("to 1 2 3 4 5;", 11, 1);
         fault("to 1 2 3 4", 10, 1);
@@ -195,7 +201,10 @@ public final class ProgramTest {
         right(round + "1;", 64);
         fault(round + "2;", 37, 4);
         fault(round + "1;by 1 0 0 1;", 47, 4);
+        fault(round + "1;by 0 1 0 1;", 47, 4);
+        fault(round + "1;by 0 0 1 1;", 47, 4);
         right(round + "1;by 0 0 0 1;", 64);
+        fault("tolerance 0;turn 0 1000 4 0 1;by 1 0 0 1;turn 0 1000 4 0 1;", 41, 4);
         String marks = "mark a;mark b;mark c;mark d;mark e;mark f;mark g;mark h;";
         right(marks, 0);
         fault(marks + "mark i;", 56, 4);
@@ -311,6 +320,20 @@ public final class ProgramTest {
         Desk.due("its feed, too", ride.block(0, 4), 500);
         Desk.due("acts can be undone still", ride.undo(), 6);
         Desk.due("the image is there still", ride.back(1), before[4]);
+    }
+
+    private static void settingsAnew() {
+        PathRide ride = Desk.riding("axes 9 9 9 9 9 9;jerk 3;tolerance 4;to 5 0 0 5000;");
+        Desk.due("speed", ride.block(0, 5), 9);
+        for (String text : new String[] {"to 5 0 0 5000;", "to 0 0 5 5000;"}) {
+            Desk.due("told without settings", Desk.tell(ride, text), 1);
+            Desk.due("speed", ride.block(0, 5), 2000);
+            Desk.due("push", ride.block(0, 6), 100);
+            Desk.due("jerk", ride.count(11), 10);
+            Desk.due("tolerance", ride.count(12), 50);
+            Desk.due("marks", ride.count(2), 0);
+            Desk.due("all", ride.count(3), 5);
+        }
     }
 
     private static void whatAProgramEnds() {

@@ -14,6 +14,7 @@ public final class ShapeTest {
         box();
         near();
         legs();
+        asManyAsMayBe();
         nothingTold();
         Desk.finish("ShapeTest");
     }
@@ -200,6 +201,32 @@ public final class ShapeTest {
         Desk.due("keep", ride.keep(0), 1);
         Desk.due("common", ride.common(0), 1);
         Desk.due("nothing came of it", ride.count(13), 0);
+    }
+
+    /** 64 blocks: two turns of 32 chords each, all the way up. */
+    private static void asManyAsMayBe() {
+        PathRide ride = Desk.riding("tolerance 0;turn 0 1000 4 50 700;turn 0 2000 4 70 900;");
+        Desk.due("blocks", ride.count(0), 64);
+        Desk.due("spots", ride.spots(), 65);
+        Desk.due("the last spot", ride.spot(64, 2), 120);
+        Desk.due("it comes once", ride.spot(64, 3), 1);
+        Desk.due("comes", ride.comes(0, 0, 120), 1);
+        Desk.due("near", ride.near(0, 0, 120, 0), 64);
+        Desk.due("box", ride.box(2, 1), 120);
+        Desk.due("the last corner", ride.corner(62, 0) > 0, true);
+        Desk.due("no corner behind the last block", ride.corner(63, 0), -1);
+        Desk.due("passes", ride.block(63, 8) > 0, true);
+        Desk.due("twice", ride.twice(63), 63);
+        Desk.due("twice", ride.twice(-1), 0);
+        Desk.due("keep", ride.keep(0), 64);
+        Desk.due("common", ride.common(0), 64);
+        Desk.due("layers", ride.layer(-1, 0), 0);
+        Desk.due("the place at the end", ride.place(ride.count(3), 2), 120);
+        while (ride.till() > 0) {
+            ride.ticks(60);
+        }
+        Desk.due("the block of s", ride.count(7), 63);
+        Desk.due("where", ride.where(2), 120);
     }
 
     private static void nothingTold() {
