@@ -776,7 +776,8 @@ public final class PathRide {
             }
             name = tape.start;
             marked = findMark();
-            if ((kind == MARK) == (marked != NONE)) {
+            boolean known = marked != NONE;
+            if (known == (kind == MARK)) {
                 fail(3, tape.start);
             }
             if (kind == AGAIN) {
