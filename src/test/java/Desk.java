@@ -3,15 +3,21 @@ final class Desk {
     static final int MIN = Integer.MIN_VALUE;
     private static int asked;
     private static int wrong;
+    private static String heading = "";
 
     private Desk() {
+    }
+
+    /** What is asked from here on is about this sentence of this promise; a wrong answer names both. */
+    static void promise(int number, String sentence) {
+        heading = "Promise " + number + ", \"" + sentence + "\": ";
     }
 
     static void due(String call, long got, long want) {
         asked++;
         if (got != want) {
             wrong++;
-            System.out.println(call + " answered " + got + ", due is " + want);
+            System.out.println(heading + call + " answered " + got + ", due is " + want);
         }
     }
 

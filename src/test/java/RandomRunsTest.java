@@ -2,7 +2,8 @@ import java.util.Random;
 
 /** Calls without order on new objects, each compared with what Oracle answers. Arguments: runs, first seed. */
 public final class RandomRunsTest {
-    private static final int CALLS = 500;
+    // an object is used for at most 512 calls; the last program may take 23 of them, the last act 7
+    private static final int CALLS = 480;
 
     private final Random random;
     private final long seed;
@@ -141,10 +142,7 @@ public final class RandomRunsTest {
                 }
         }
         for (int what = 4; what <= 9; what++) {
-            long got = ride.count(what);
-            if (got != due.count(what)) {
-                check("count " + what, got, due.count(what));
-            }
+            check("count " + what, ride.count(what), due.count(what));
         }
     }
 

@@ -27,8 +27,8 @@ public final class StateTest {
 
     /** Each sum is the least over one going and the sum behind it. */
     private static void leastByAllRows() {
-        PathRide ride = new PathRide();
         for (int w = 0; w <= 30; w++) {
+            PathRide ride = new PathRide();
             for (int u = -6; u <= 6; u++) {
                 int best = w == 0 && u == 0 ? 0 : Integer.MAX_VALUE;
                 for (int j = -1; j <= 1; j++) {
@@ -130,44 +130,52 @@ public final class StateTest {
             400, 3001, 100001, 1 << 30, Integer.MAX_VALUE};
         String[] texts = {"", "to 500 0 0 50;to 500 300 0 900;turn 9 9 -4 7 80;", "to 1 0 0 1;", ";"};
         for (String text : texts) {
-            PathRide ride = new PathRide();
-            Desk.tell(ride, text);
             for (int a : odd) {
+                PathRide ride = new PathRide();
+                Desk.tell(ride, text);
                 for (int b : odd) {
-                    ride.block(a, b);
-                    ride.corner(a, b);
-                    ride.place(a, b);
-                    ride.ahead(a, b);
-                    ride.tried(a, b);
-                    ride.least(a, b);
-                    ride.spot(a, b);
-                    ride.layer(a, b);
-                    ride.box(a, b);
-                    ride.comes(a, b, a);
-                    ride.near(a, b, 0, 1);
-                    ride.near(0, a, b, b);
-                    ride.feed(a, b, a, b, a);
-                    ride.end(b);
+                    askTwo(ride, a, b);
                 }
-                ride.ticks(a);
-                ride.give(a);
-                ride.where(a);
-                ride.slowest(a);
-                ride.brakes(a);
-                ride.twice(a);
-                ride.run(a);
-                ride.halt(a);
-                ride.due(a);
-                ride.binds(a);
-                ride.meets(a);
-                ride.keep(a);
-                ride.common(a);
-                ride.image(a);
-                ride.back(a);
-                ride.count(a);
-                ride.undo();
+                askOne(ride, a);
+                Desk.due("it still tells a program", Desk.tell(ride, "to 5 5 5 5;"), 1);
             }
-            Desk.due("it still tells a program", Desk.tell(ride, "to 5 5 5 5;"), 1);
         }
+    }
+
+    private static void askTwo(PathRide ride, int a, int b) {
+        ride.block(a, b);
+        ride.corner(a, b);
+        ride.place(a, b);
+        ride.ahead(a, b);
+        ride.tried(a, b);
+        ride.least(a, b);
+        ride.spot(a, b);
+        ride.layer(a, b);
+        ride.box(a, b);
+        ride.comes(a, b, a);
+        ride.near(a, b, 0, 1);
+        ride.near(0, a, b, b);
+        ride.feed(a, b, a, b, a);
+        ride.end(b);
+    }
+
+    private static void askOne(PathRide ride, int a) {
+        ride.ticks(a);
+        ride.give(a);
+        ride.where(a);
+        ride.slowest(a);
+        ride.brakes(a);
+        ride.twice(a);
+        ride.run(a);
+        ride.halt(a);
+        ride.due(a);
+        ride.binds(a);
+        ride.meets(a);
+        ride.keep(a);
+        ride.common(a);
+        ride.image(a);
+        ride.back(a);
+        ride.count(a);
+        ride.undo();
     }
 }
