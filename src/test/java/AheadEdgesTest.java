@@ -112,6 +112,16 @@ public final class AheadEdgesTest {
             given.give(n);
             Desk.due("tried 2 " + n, ride.tried(2, n), given.till());
         }
+        // far and fast, so that the reach matters: 12, 6, 12, 3, 12, 1, 12 by these jerks
+        String far = "axes 5000 5000 5000 24 24 24;to 30000 0 0 5000;to 30000 20000 0 5000;";
+        ride = Desk.riding("jerk 9;" + far);
+        for (int n : new int[] {2, 4, 2, 8, 1, 24, 2}) {
+            Desk.due("far, tried 1 " + n, ride.tried(1, n), Desk.riding("jerk " + n + ";" + far).till());
+        }
+        ride = Desk.riding("jerk 7;tolerance 99;" + bent);
+        ride.tried(0, 0);
+        ride.tried(1, 1);
+        ride.tried(2, 1);
         Desk.due("tolerance as it was", ride.count(12), 99);
         Desk.due("jerk as it was", ride.count(11), 7);
         Desk.due("given as it was", ride.count(8), 100);
@@ -342,6 +352,14 @@ public final class AheadEdgesTest {
         ride.ticks(60);
         // at rest at 60
         runs("done, held", ride, 0, 0, 0, 0, 0);
+        // held at the beginning, and at 10: its brakes alone would not bring it to its end
+        ride = Desk.riding(SIXTY);
+        ride.hold();
+        runs("from the beginning, were it not held", ride, 2, 2, 2, 0, 5);
+        ride = ridden(SIXTY, 1);
+        ride.hold();
+        runs("from 10, were it not held", ride, 2, 1, 2, 0, 4);
+        Desk.due("it is held still", ride.count(9), 1);
     }
 
     private static void runThreeThousand() {

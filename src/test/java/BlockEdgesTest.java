@@ -48,6 +48,8 @@ public final class BlockEdgesTest {
         Desk.due("block 62 4", most.block(62, 4), 900);
         Desk.due("block 63 4", most.block(63, 4), 900);
         Desk.due("block 64 4", most.block(64, 4), -1);
+        Desk.due("block 63 8", most.block(63, 8), 10);
+        Desk.due("block 64 8", most.block(64, 8), -1);
         Desk.due("block 31 4", most.block(31, 4), 700);
         Desk.due("block 32 4", most.block(32, 4), 900);
     }
@@ -428,6 +430,13 @@ public final class BlockEdgesTest {
         binds("500 499 500", "9 9 9", 1);
         binds("500 500 499", "9 9 9", 2);
         binds("500 499 499", "9 9 9", 1);
+        // steps of 1
+        binds("500 500 500", "1 0 0", 0);
+        binds("500 500 500", "-1 0 0", 0);
+        binds("500 500 500", "0 1 0", 1);
+        binds("500 500 500", "0 -1 0", 1);
+        binds("500 500 500", "0 0 1", 2);
+        binds("500 500 500", "1 1 1", 0);
         // one in which it does not go gives nothing
         binds("20 500 500", "0 9 9", 1);
         binds("20 30 500", "0 0 9", 2);

@@ -9,6 +9,8 @@ public final class FaultEdgesTest {
         again();
         nowhere();
         whatAProgramEnds();
+        settingsAnew();
+        oneProgramBehindAnother();
         whatAFaultLeaves();
         Desk.finish("FaultEdgesTest");
     }
@@ -201,6 +203,61 @@ public final class FaultEdgesTest {
 
     private static PathRide legsKept() {
         return keeping(Desk.riding("to 300 0 0 900;to 300 400 0 500;by 0 0 90 700;"));
+    }
+
+    private static void settingsAnew() {
+        Desk.promise(4, "each once (in each PROGRAM)");
+        String[] lines = {"axes 9 9 9 9 9 9;", "jerk 9;", "tolerance 9;", "mark a;"};
+        for (String line : lines) {
+            PathRide ride = Faults.right(line, 0);
+            Desk.due("the same told again", Desk.tell(ride, line), 0);
+            Desk.due("a fault behind it", Desk.tell(ride, line + "x"), -2 - (8 * line.length() + 1));
+            Desk.due("the same behind a fault", Desk.tell(ride, line), 0);
+        }
+        PathRide ride = Faults.right("mark a;mark b;", 0);
+        Desk.due("again without a mark", Desk.tell(ride, "again a 1;"), -2 - (8 * 6 + 3));
+        Desk.due("its marks", ride.count(2), 2);
+    }
+
+    /** What was told, asked and gone before leaves nothing to the program that is told in its place. */
+    private static void oneProgramBehindAnother() {
+        Desk.promise(4, "tells the PROGRAM in place of the one there was");
+        String[] texts = {"", "to 7 0 0 90;",
+            "to 100 0 0 5;to 100 100 0 5;to 0 100 0 5;to 0 0 0 5;to 100 0 0 5;to 100 0 50 5;to 0 0 50 5;",
+            "axes 5000 5000 5000 20 30 40;to 9000 0 0 5000;to 9000 3000 0 5000;",
+            "axes 3000 3000 3000 500 500 500;jerk 2;tolerance 600;to 4000 0 0 5000;by 0 4000 100 5000;by 7 0 0 3;",
+            "jerk 50;tolerance 0;mark a;turn 0 500 3 8 900;by 1 2 3 4;again a 1;",
+            "tolerance 2000;mark a;to 9 0 0 5;to 0 0 0 5;again a 3;again a 3;"};
+        for (String first : texts) {
+            for (String next : texts) {
+                PathRide ride = Desk.riding(first);
+                useUp(ride);
+                Desk.due("program of " + next, Desk.tell(ride, next), Desk.riding(next).count(0));
+                Twins.alike(next + " told behind " + first, ride, Desk.riding(next));
+                // once more behind both, with a fault between
+                ride = Desk.riding(first);
+                useUp(ride);
+                Desk.tell(ride, next);
+                Desk.due("a fault behind " + next, Desk.tell(ride, next + "to") < -1, true);
+                useUp(ride);
+                Desk.due("program of " + first, Desk.tell(ride, first), Desk.riding(first).count(0));
+                Twins.alike(first + " told behind " + next, ride, Desk.riding(first));
+            }
+        }
+    }
+
+    private static void useUp(PathRide ride) {
+        for (int block = 0; block < Math.min(6, ride.count(0)); block++) {
+            ride.block(block, 8);
+        }
+        ride.run(0);
+        ride.tried(1, 1);
+        ride.tried(1, 50);
+        ride.slowest(3000);
+        ride.ticks(9);
+        ride.give(180);
+        ride.ticks(9);
+        ride.till();
     }
 
     private static void whatAFaultLeaves() {

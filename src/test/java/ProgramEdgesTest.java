@@ -1,6 +1,7 @@
 /** The edges of promise 4, with Term I: how long a text is, tokens, numbers, names, how many there may be. */
 public final class ProgramEdgesTest {
     private static final String BY = "by 1 0 0 1;";
+    private static final String[] WORDS = {"axes", "jerk", "tolerance", "to", "by", "turn", "mark", "again"};
 
     public static void main(String[] args) {
         lengths();
@@ -88,6 +89,15 @@ public final class ProgramEdgesTest {
         Faults.right("to 1-2-3 4;", 1);
         Faults.right("mark a;again a1;mark ab;again ab1;", 0);
         Faults.fault("^toto 1 2 3 4;", 1);
+        // the words that begin a line, with another letter first, last, one less, one more
+        for (String word : WORDS) {
+            String rest = word.substring(1);
+            String most = word.substring(0, word.length() - 1);
+            for (String other : new String[] {"q" + rest, most + "q", rest, most, word + "q", "q" + word}) {
+                Faults.fault("^" + other + " 1 2 3 4 5 6;", 1);
+                Faults.right("mark " + (other.length() > 7 ? "q" : other) + ";", 0);
+            }
+        }
         Faults.fault("^t o 1 2 3 4;", 1);
         Faults.fault("^top 1 2 3 4;", 1);
         Faults.fault("^tolerancetolerance 5;", 1);
@@ -273,7 +283,7 @@ public final class ProgramEdgesTest {
         Faults.fault("mark ^abcdefgh;", 1);
         Faults.fault("mark ^abcdefghi;", 1);
         Faults.fault("mark abcdefg;again ^abcdefgh 1;", 1);
-        for (String word : new String[] {"axes", "jerk", "tolerance", "to", "by", "turn", "mark", "again"}) {
+        for (String word : WORDS) {
             Faults.fault("mark ^" + word + ";", 1);
             Faults.fault("mark a;again ^" + word + " 1;", 1);
         }
@@ -373,5 +383,9 @@ public final class ProgramEdgesTest {
         Faults.right(turns + Desk.repeat(BY, 4) + "turn -2 -1 1 0 9;", 63);
         Faults.right(turns + Desk.repeat(BY, 5) + "turn -2 -1 1 0 9;", 64);
         Faults.fault(turns + Desk.repeat(BY, 6) + "^turn -2 -1 1 0 9;", 4);
+        Faults.right(turns + Desk.repeat(BY, 5) + "turn -2 -1 1 1 9;", 64);
+        // of eight chords the first and the last but one go nowhere
+        Faults.right(turns + BY + BY + "turn 4 1 1 0 9;", 64);
+        Faults.fault(turns + BY + BY + BY + "^turn 4 1 1 0 9;", 4);
     }
 }

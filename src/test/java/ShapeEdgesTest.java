@@ -17,6 +17,7 @@ public final class ShapeEdgesTest {
         layersInTheirOrder();
         meetsOfOthers();
         meetsAtAnEnd();
+        meetsAlongALine();
         meetsNotRightBehind();
         meetsOfOneLayer();
         meetsFirstTwo();
@@ -269,12 +270,39 @@ public final class ShapeEdgesTest {
         two(false, 20, 8, 15, 6);
         two(true, -5, -2, 15, 6);
         two(true, 5, 2, 0, 0);
-        // beside it
+        // beside it, by as little as may be: 5 * 1 less 2 * 2 is 1, 5 * 1 less 2 * 3 is -1
+        meets("to the left of 5 2", Desk.riding("to 5 2 0 5;to 5 9 0 5;to 2 9 0 5;to 2 1 0 5;"), 0, -2, -2);
+        meets("to the right of 5 2", Desk.riding("to 5 2 0 5;to 5 -9 0 5;to 3 -9 0 5;to 3 1 0 5;"), 0, -2, -2);
+        meets("over 5 2 from the left", Desk.riding("to 5 2 0 5;to 5 9 0 5;to 2 9 0 5;to 2 0 0 5;"), 1, 0, 3);
+        meets("over 5 2 from the right", Desk.riding("to 5 2 0 5;to 5 -9 0 5;to 3 -9 0 5;to 3 2 0 5;"), 1, 0, 3);
         two(false, 0, 1, 10, 5);
         two(false, 0, -1, 10, 3);
         // its box is met, the block itself is not
         two(false, 0, 1, 1, 4);
         two(false, 9, 0, 10, 3);
+    }
+
+    private static void meetsAlongALine() {
+        Desk.promise(29, "any place in X, Y is between the ends of both (or is an end)");
+        int[][] rows = {{10, 20, 1}, {11, 20, 0}, {9, 20, 1}, {20, 10, 1}, {20, 11, 0}, {-5, 0, 1}, {-5, -1, 0}, {0, -5, 1},
+            {-1, -5, 0}, {-5, 1, 1}, {3, 7, 1}, {7, 3, 1}, {-5, 15, 1}, {15, -5, 1}, {0, 10, 1}, {10, 0, 1}};
+        for (int[] row : rows) {
+            line("along X", "to 10 0 0 5;", row[0] + " 0", row[1] + " 0", row[2]);
+            line("along Y", "to 0 10 0 5;", "0 " + row[0], "0 " + row[1], row[2]);
+            line("along X, downwards", "to -10 0 0 5;", -row[0] + " 0", -row[1] + " 0", row[2]);
+            line("along Y, downwards", "to 0 -10 0 5;", "0 " + -row[0], "0 " + -row[1], row[2]);
+            // one beside it
+            line("beside X", "to 10 0 0 5;", row[0] + " 1", row[1] + " 1", 0);
+            line("beside Y", "to 0 10 0 5;", "-1 " + row[0], "-1 " + row[1], 0);
+        }
+    }
+
+    /** Whether the first block meets the last one, to which it goes above, where nothing else is. */
+    private static void line(String what, String first, String from, String to, int meet) {
+        String text = first + "to 50 50 9 5;to " + from + " 8 5;to " + from + " 0 5;to " + to + " 0 5;";
+        PathRide ride = Desk.riding(text);
+        int last = ride.count(0) - 1;
+        meets(what + ": " + text, ride, meet, meet == 1 ? 0 : -2, meet == 1 ? last : -2);
     }
 
     private static void meetsNotRightBehind() {
@@ -396,6 +424,13 @@ public final class ShapeEdgesTest {
         Desk.due("near by less than a root tells", ride.near(50, 10, 0, 0), 2);
         Desk.due("how far", ride.near(50, 10, 0, 1), 50);
         Desk.due("near of the last spot", full().near(0, 0, 120, 0), 64);
+        // the spots of another program are none any more
+        ride = Desk.riding(SQUARE);
+        Desk.tell(ride, "to 9 0 0 5;");
+        Desk.due("near where one was", ride.near(100, 100, 0, 0), 1);
+        Desk.due("how far", ride.near(100, 100, 0, 1), 135);
+        Desk.due("comes where one was", ride.comes(100, 100, 0), 0);
+        Desk.due("spot where one was", ride.spot(2, 0), Desk.MIN);
     }
 
     private static void nearHowFar() {

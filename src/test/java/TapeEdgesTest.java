@@ -140,6 +140,13 @@ public final class TapeEdgesTest {
         Twins.refused("end 20 behind end 19", () -> ended(20, 19), r -> r.end(20), -1);
     }
 
+    private static int cut(String text, int bytes) {
+        PathRide ride = new PathRide();
+        Desk.type(ride, text);
+        Desk.due("end " + bytes, ride.end(bytes), bytes);
+        return ride.program();
+    }
+
     private static void endAlone() {
         Desk.promise(3, "The TAPE has its first n bytes alone");
         PathRide ride = taped(11);
@@ -151,6 +158,13 @@ public final class TapeEdgesTest {
         Desk.due("feed behind them", ride.feed(0x353b2020, 0x20202020, 0x20202020, 0x20202020, 0x20202020), 30);
         Desk.due("program", ride.program(), 1);
         Desk.due("its feed", ride.block(0, 4), 45);
+        // cut within a number, within a word: what stood behind it is not seen any more
+        Desk.due("cut within a number", cut("to 1 2 3 45;", 10), -2 - (8 * 10 + 1));
+        Desk.due("cut within a number", cut("jerk 123;", 7), -2 - (8 * 7 + 1));
+        Desk.due("cut within a name", cut("mark abcdefgh;", 12), -2 - (8 * 12 + 1));
+        Desk.due("cut within a word", cut("markaby;", 4), -2 - (8 * 4 + 1));
+        Desk.due("cut within blanks", cut("to 1 2 3 4    ;", 12), -2 - (8 * 12 + 1));
+        Desk.due("cut ahead of the end of a line", cut("to 1 2 3 4;to", 11), 1);
         ride = taped(20);
         Desk.due("end 20", ride.end(20), 20);
         Desk.due("program of all its bytes", ride.program(), 1);

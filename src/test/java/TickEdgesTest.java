@@ -8,6 +8,8 @@ public final class TickEdgesTest {
         creepsOrGoes();
         endsAtAll();
         limitOfABlock();
+        limitOfAHundred();
+        fromFarAhead();
         limitOfTheBlockAhead();
         limitOfTheBlockBehind();
         limitOfABlockBetween();
@@ -163,6 +165,53 @@ public final class TickEdgesTest {
         // by 4 they may
         walk("to 300 0 0 40;", at(10, 1, 1), at(40, 3, 2), at(80, 4, 1), at(120, 4, 0), at(160, 4, 0), at(200, 4, 0),
             at(240, 4, 0), at(270, 3, -1), at(290, 2, -1), at(300, 1, -1), at(300, 0, -1), at(300, 0, 0));
+    }
+
+    private static void limitOfAHundred() {
+        Desk.promise(7, "w is no more than LIMIT (100 at most)");
+        // up to 100 by 1, 2, .. 10, .. 1, down again by as much: that is 1000, 100 and 900 behind it
+        String fast = "axes 5000 5000 5000 500 9 9;jerk 1;to ";
+        int[][] rows = {{1999, 41, 99, 0}, {2000, 40, 100, 2}, {2100, 41, 100, 3}, {2200, 42, 100, 4}};
+        for (int[] row : rows) {
+            PathRide ride = Desk.riding(fast + row[0] + " 0 0 5000;");
+            Desk.due("till " + row[0], ride.till(), row[1]);
+            Desk.due("run 0 of " + row[0], ride.run(0), row[2]);
+            Desk.due("run 3 of " + row[0], ride.run(3), row[3]);
+        }
+        PathRide ride = Desk.riding(fast + "2200 0 0 5000;");
+        int[] ups = {1, 3, 6, 10, 15, 21, 28, 36, 45, 55, 64, 72, 79, 85, 90, 94, 97, 99, 100, 100, 100, 100};
+        for (int w : ups) {
+            ride.ticks(1);
+            Desk.due("w up", ride.count(5), w);
+        }
+        int[] downs = {99, 97, 94, 90, 85, 79, 72, 64, 55, 45, 36, 28, 21, 15, 10, 6, 3, 1, 0, 0};
+        for (int w : downs) {
+            ride.ticks(1);
+            Desk.due("w down", ride.count(5), w);
+        }
+        Desk.due("s", ride.count(4), 2200);
+        Desk.due("done", ride.till(), 0);
+    }
+
+    private static void fromFarAhead() {
+        Desk.promise(7, "SAFE, if BRAKES from there on MAY, one behind another, till it is at REST");
+        int[][] up = {at(10, 1, 1), at(40, 3, 2), at(90, 5, 2), at(150, 6, 1), at(210, 6, 0), at(260, 5, -1)};
+        // over a corner of 1, at just 300 by 1, and by 1 from 300 on to rest
+        walk("tolerance 0;to 300 0 0 1000;by 0 300 0 1000;", up[0], up[1], up[2], up[3], up[4], up[5], at(290, 3, -2),
+            at(300, 1, -2), at(300, 0, -1), at(300, 0, 0), at(310, 1, 1), at(340, 3, 2), at(390, 5, 2), at(450, 6, 1),
+            at(510, 6, 0), at(560, 5, -1), at(590, 3, -2), at(600, 1, -2), at(600, 0, -1), at(600, 0, 0));
+        // on into a block of 2: at 300 it would be in it by 4, and ahead of it with one more
+        walk("to 300 0 0 1000;by 100 0 0 20;", up[0], up[1], up[2], up[3], up[4], up[5], at(290, 3, -2), at(310, 2, -1),
+            at(330, 2, 0), at(350, 2, 0), at(370, 2, 0), at(390, 2, 0), at(400, 1, -1), at(400, 0, -1), at(400, 0, 0));
+        walk("to 301 0 0 1000;by 100 0 0 20;", up[0], up[1], up[2], up[3], up[4], up[5], at(300, 4, -1), at(320, 2, -2),
+            at(330, 1, -1), at(340, 1, 0), at(360, 2, 1), at(380, 2, 0), at(390, 1, -1), at(400, 1, 0), at(400, 0, -1),
+            at(400, 0, 0), at(401, 0, 0));
+        // into a block of 2 that ends ahead of where the brakes would end
+        walk("to 90 0 0 30;by 20 0 0 20;by 90 0 0 30;", at(10, 1, 1), at(30, 2, 1), at(50, 2, 0), at(70, 2, 0), at(90, 2, 0),
+            at(110, 2, 0), at(140, 3, 1), at(170, 3, 0), at(190, 2, -1), at(200, 1, -1), at(200, 0, -1), at(200, 0, 0));
+        walk("to 91 0 0 30;by 20 0 0 20;by 90 0 0 30;", at(10, 1, 1), at(30, 2, 1), at(60, 3, 1), at(90, 3, 0),
+            at(110, 2, -1), at(130, 2, 0), at(150, 2, 0), at(170, 2, 0), at(190, 2, 0), at(200, 1, -1), at(200, 0, -1),
+            at(200, 0, 0), at(201, 0, 0));
     }
 
     private static void limitOfTheBlockAhead() {
@@ -428,5 +477,10 @@ public final class TickEdgesTest {
             Desk.due("the block of s", ride.count(7), end[2]);
             Desk.due("the last block at the end", ride.ahead(300, 3), 1);
         }
+        // the first block is 1 long
+        PathRide ride = Desk.riding("to 1 0 0 10;by 0 40 0 10;");
+        Desk.due("the block of s at the beginning", ride.count(7), 0);
+        Desk.due("ahead 0 3", ride.ahead(0, 3), 0);
+        Desk.due("ahead 1 3", ride.ahead(1, 3), 1);
     }
 }

@@ -11,6 +11,7 @@ public final class TurnEdgesTest {
         quarters();
         rise();
         chordsNowhere();
+        movesBehindATurn();
         fullCircle();
         radiusDownwards();
         Desk.finish("TurnEdgesTest");
@@ -136,6 +137,26 @@ public final class TurnEdgesTest {
         ends("radius 1", least, 1, -1, 1, 0);
         Faults.right("tolerance 1;turn -1 0 1 0 9;", 1);
         Desk.due("moves", flat.count(1), 1);
+    }
+
+    private static void movesBehindATurn() {
+        Desk.promise(4, "by: so much on; turn: round a centre that lies so much in X, in Y from where one is");
+        // a quarter of eight chords ends at 100 100 8
+        String quarter = "tolerance 0;turn 0 100 1 8 5;";
+        PathRide ride = Faults.right(quarter + "by 1 2 3 5;by 10 20 30 5;", 10);
+        ends("by", ride, 8, 101, 102, 11);
+        ends("by", ride, 9, 111, 122, 41);
+        ride = Faults.right(quarter + "to 1 2 3 5;", 9);
+        ends("to", ride, 8, 1, 2, 3);
+        // on to the left: round 0 100 again, and on round 100 200
+        ride = Faults.right(quarter + "turn -100 0 1 8 5;", 16);
+        ends("turn", ride, 8, 98, 119, 9);
+        ends("turn", ride, 15, 0, 200, 16);
+        ride = Faults.right(quarter + "turn 0 100 1 -8 5;", 16);
+        ends("turn", ride, 8, 119, 102, 7);
+        ends("turn", ride, 15, 200, 200, 0);
+        ride = Faults.right("tolerance 0;by 0 0 0 5;mark a;turn 0 100 2 8 5;by 1 2 3 5;again a 1;", 34);
+        ends("by, told again", ride, 33, 2, 404, 22);
     }
 
     private static void fullCircle() {

@@ -17,6 +17,7 @@ final class Twins {
 
     private static final int[] MOMENT = {4, 5, 6, 8, 9, 13, 15};
     private static final int SHOWN_BLOCKS = 4;
+    private static final int SHOWN_SPOTS = 5;
 
     private final PathRide ride;
     private final List<String> names = new ArrayList<>();
@@ -102,19 +103,22 @@ final class Twins {
 
     private void lookAtShape() {
         see("spots", ride.spots());
-        for (int what = 0; what <= 3; what++) {
-            see("spot 1 " + what, ride.spot(1, what));
+        for (int k = 0; k < SHOWN_SPOTS; k++) {
+            see("spot " + k + " 0", ride.spot(k, 0));
+            see("spot " + k + " 3", ride.spot(k, 3));
+            see("twice " + k, ride.twice(k));
         }
         see("comes", ride.comes(0, 0, 0));
         see("twice", ride.twice(-1));
-        see("twice 1", ride.twice(1));
         see("layers", ride.layer(-1, 0));
         for (int what = 0; what <= 2; what++) {
             see("layer 0 " + what, ride.layer(0, what));
+            see("layer 1 " + what, ride.layer(1, what));
             see("meets " + what, ride.meets(what));
         }
         see("box", ride.box(0, 1));
         see("near", ride.near(1, 2, 3, 1));
+        see("near 90 90 20 0", ride.near(90, 90, 20, 0));
         see("common 0", ride.common(0));
         see("common 1", ride.common(1));
     }
