@@ -18,6 +18,7 @@ public final class ActEdgesTest {
         backToEach();
         backOfWhatIsNotInIt();
         imagesOfAnotherProgram();
+        lastOfAllCalls();
         Desk.finish("ActEdgesTest");
     }
 
@@ -338,6 +339,28 @@ public final class ActEdgesTest {
         Desk.due("the legs stay", ride.common(1), 3);
         Desk.due("the other image stays", ride.back(2) >= 0, true);
         Desk.due("the program stays", ride.count(0), 3);
+    }
+
+    /** An object is used for at most 512 calls: the last one is answered as the first. */
+    private static void lastOfAllCalls() {
+        Desk.promise(8, "GIVE: which was GIVEN (in each of 512 calls)");
+        PathRide ride = new PathRide();
+        int was = 100;
+        for (int call = 1; call <= 511; call++) {
+            int percent = call % 200 + 1;
+            Desk.due("give, call " + call, ride.give(percent), was);
+            was = percent;
+        }
+        Desk.due("undo, call 512", ride.undo(), 19);
+        Desk.promise(4, "how many BLOCKS (in each of 512 calls)");
+        ride = new PathRide();
+        for (int call = 3; call <= 510; call += 3) {
+            ride.feed(0x6279202d, 0x31203020, 0x3020393b, 0x62792030, 0x20302031);
+            Desk.due("end", ride.end(12), 12);
+            Desk.due("program, call " + call, ride.program(), 1);
+        }
+        Desk.due("all, call 511", ride.count(3), 1);
+        Desk.due("X, call 512", ride.block(0, 0), -1);
     }
 
     private static void imagesOfAnotherProgram() {
